@@ -1347,19 +1347,17 @@ public final class EdgesFit {
 
         /** The least v of the next age by which the rest of the story is cheapest. */
         private int bestNext(int age, int v) {
-            int best = NONE;
-            int cheapest = 0;
+            int best = v;
+            int cheapest = priceVia(age, v, v);
             for (int next = 0; next < COLUMNS; next++) {
-                if (ringDistance(v, next) <= speed) {
-                    int asked = priceVia(age, v, next);
-                    if (best == NONE || asked < cheapest) {
-                        best = next;
-                        cheapest = asked;
-                    }
+                int asked = priceVia(age, v, next);
+                boolean better = asked < cheapest || asked == cheapest && next < best;
+                if (better && ringDistance(v, next) <= speed) {
+                    best = next;
+                    cheapest = asked;
                 }
             }
-            // To stay is never too fast, so there always is a best one; this only keeps the answer a column.
-            return best == NONE ? v : best;
+            return best;
         }
 
         int leastPrice() {
