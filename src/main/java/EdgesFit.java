@@ -1095,7 +1095,13 @@ public final class EdgesFit {
 
         /** Finds the cheapest way and its price; NONE for both, if there is none. */
         void choose(int d, int e, int k) {
-            askLaws(d, e, k);
+            Arrays.fill(asked, NONE);
+            for (int i = size - 1; i >= 0; i--) {
+                Law law = laws[i];
+                if (asked[law.way] == NONE && law.holds(d, e, k)) {
+                    asked[law.way] = law.price;
+                }
+            }
             price = NONE;
             way = NONE;
             for (int i = 0; i < WAYS; i++) {
@@ -1103,16 +1109,6 @@ public final class EdgesFit {
                 if (open && (price == NONE || asked[i] < price)) {
                     price = asked[i];
                     way = i;
-                }
-            }
-        }
-
-        private void askLaws(int d, int e, int k) {
-            Arrays.fill(asked, NONE);
-            for (int i = size - 1; i >= 0; i--) {
-                Law law = laws[i];
-                if (asked[law.way] == NONE && law.holds(d, e, k)) {
-                    asked[law.way] = law.price;
                 }
             }
         }

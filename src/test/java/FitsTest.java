@@ -22,7 +22,7 @@ final class FitsTest {
     /** Land 0 has columns of row 2, land 1 has columns of row 5. */
     private static EdgesFit rows(String home, String moved) {
         EdgesFit x = new EdgesFit();
-        for (int column = 0; column < 16; column++) {
+        for (int column = 0; column < home.length(); column++) {
             if (home.charAt(column) == 'a') {
                 x.cell(0, 32 + column);
             }
@@ -52,6 +52,10 @@ final class FitsTest {
         due("10 v goes east around the ring", x.put(0, 1, -3, 14, 1), 1);
         due("10 v goes east around the ring", x.put(0, 1, -3, 15, 0), 1);
         due("10 u goes south", x.put(1, 0, 3, 1, 0), 1);
+        x.run(5, 7, 0, 16);
+        x.cell(4, 0);
+        due("10 a cell of row 0 to row 7", x.put(5, 4, 7, 3, 0), 1);
+        due("10 a cell of row 0 to no row", x.put(5, 4, -1, 3, 0), LEAVES);
         due("10 nobody has gone", x.land(1, 1), 81);
     }
 
@@ -115,6 +119,11 @@ final class FitsTest {
         due("10 in another row nothing touches", x.put(0, 1, -2, 0, 5), 0);
         due("10 around the ring", x.put(0, 1, -3, 14, 5), -3);
         due("10 the other way", x.put(1, 0, 3, 0, 5), -3);
+        x.mark(0, 82, 9);
+        x.mark(0, 33, 9);
+        due("10 a mark more", x.put(0, 1, -3, 0, 5), -2);
+        x.drop();
+        due("10 a mark that is gone does not go on", x.put(0, 1, -3, 0, 5), -3);
     }
 
     private static void refusalsOfPut() {
@@ -148,6 +157,11 @@ final class FitsTest {
         due("11 one that overlaps is dearer than one that touches", y.fit(0, 1, 1), 2);
         EdgesFit z = rows("a..a............", "b...b...........");
         due("11 a gap costs: v", z.fit(0, 1, 1), 4);
+        EdgesFit far = new EdgesFit();
+        far.cell(0, 112);
+        far.cell(1, 0);
+        due("11 from the northmost row to the southmost", far.fit(0, 1, 0), 14);
+        due("11 from the southmost row to the northmost", far.fit(1, 0, 0), 0);
         due("11 none counts", x.fit(0, 2, 0), EdgesFit.NONE);
         due("11 none counts", x.fit(2, 0, 1), EdgesFit.NONE);
         due("11 none counts", x.fit(0, 2, 2), 0);
@@ -168,6 +182,13 @@ final class FitsTest {
         due("12 5 of 9", x.chance(0, 1, -3, 5, 1), 9);
         due("12 the worst: all", x.chance(0, 1, -3, 0, 0), 1);
         due("12 the worst: all", x.chance(0, 1, -3, 0, 1), 1);
+        EdgesFit even = rows("a..............", "b..............");
+        even.cell(0, 34);
+        due("12 one cell between two", even.chance(0, 1, -3, 1, 1), 5);
+        even.cell(0, 36);
+        even.cell(0, 42);
+        due("12 2 of 10", even.chance(0, 1, -3, 3, 0), 1);
+        due("12 2 of 10", even.chance(0, 1, -3, 1, 1), 5);
         due("12 does not count", x.chance(0, 1, -3, 10, 0), EdgesFit.STATE);
         due("12 leaves the rows", x.chance(0, 1, 3, 0, 0), EdgesFit.STATE);
         due("12 chance(0, 0, ..)", x.chance(0, 0, 9, 0, 0), EdgesFit.UNKNOWN);
@@ -198,6 +219,17 @@ final class FitsTest {
         due("13 beside one worse one", x.beside(0, 1, -3, 2), 3);
         due("13 u from -7 to 7", x.beside(0, 2, 7, 0), 3);
         due("13 u from -7 to 7", x.beside(0, 2, -7, 0), 3);
+        x.drop();
+        x.drop();
+        due("13 a row off the best", x.beside(0, 1, -2, 1), 4);
+        due("13 a row off the best", x.beside(0, 1, -4, 1), 4);
+        EdgesFit y = rows("a.a.............", "b...............");
+        y.mark(0, 80, 1);
+        y.mark(0, 32, 2);
+        due("13 one south of the worst", y.beside(0, 1, -2, 1), 3);
+        due("13 one north of the worst", y.beside(0, 1, -4, 1), 3);
+        due("13 two rows from the worst", y.beside(0, 1, -1, 1), 4);
+        due("10 the first mark is on b", y.put(0, 1, -3, 1, 5), -1);
         due("13 leaves the rows", x.beside(0, 1, 3, 0), EdgesFit.STATE);
         due("13 leaves the rows", x.beside(0, 1, -6, 0), EdgesFit.STATE);
         due("13 beside(6, 1, ..)", x.beside(6, 1, 0, 0), EdgesFit.UNKNOWN);

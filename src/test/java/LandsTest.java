@@ -90,6 +90,8 @@ final class LandsTest {
         due("4 land(4, 1)", x.land(4, 1), 48);
         due("4 land(4, 2)", x.land(4, 2), 3);
         due("4 land(0, 2)", x.land(0, 2), 1);
+        x.cell(3, 7);
+        due("4 least cell in row 0", x.land(3, 1), 7);
         due("4 land(5, 0)", x.land(5, 0), 0);
         due("4 land(5, 1)", x.land(5, 1), EdgesFit.NONE);
         due("4 land(5, 2)", x.land(5, 2), 0);

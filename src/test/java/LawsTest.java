@@ -170,6 +170,10 @@ final class LawsTest {
         due("19 askew", x.distance(3, 4), 2);
         x.cell(0, 64);
         due("19 farthest: one row off", x.distance(2, 0), 8);
+        EdgesFit y = new EdgesFit();
+        y.cell(0, 83);
+        y.cell(1, 99);
+        due("19 rows 5 and 6", y.distance(0, 1), 1);
         x.run(5, 0, 9, 1);
         due("19 a run", x.distance(5, 2), 1);
         due("19 distance(0, 0)", x.distance(0, 0), EdgesFit.UNKNOWN);
@@ -340,6 +344,8 @@ final class LawsTest {
         due("22 over none", x.spread(0, 0, 1), 0);
         Check.tell(x, 0, "C:11");
         due("22 straight, cheaper", x.spread(0, 0, 0), 11);
+        Check.tell(x, 0, "C:90");
+        due("22 a dearer way over fewer is no way", x.spread(0, 0, 0), 12);
         Check.tell(x, 0, "C:00");
         due("22 for nothing over none", x.spread(0, 0, 1), 0);
         EdgesFit y = new EdgesFit();
@@ -352,6 +358,23 @@ final class LawsTest {
         Check.tell(y, 1, "B:2");
         due("22 a star over a further land", y.spread(1, 0, 0), 3);
         due("22 a star over a further land", y.spread(1, 0, 1), 32);
+        EdgesFit z = inARow();
+        z.beast(20, 0);
+        z.beast(12, 0);
+        Check.tell(z, 0, "S:9?d=4");
+        Check.tell(z, 0, "B:3?d=2");
+        Check.tell(z, 0, "C:20");
+        due("22 cheaper over a further one than straight", z.spread(0, 0, 0), 6);
+        due("22 cheaper over a further one than straight", z.spread(0, 0, 1), 8);
+        due("22 straight", z.spread(0, 1, 1), 0);
+        EdgesFit w = new EdgesFit();
+        w.cell(0, 0);
+        w.cell(3, 1);
+        w.cell(4, 15);
+        w.beast(24, 0);
+        Check.tell(w, 0, "J:1");
+        due("22 over land 0", w.spread(0, 0, 0), 2);
+        due("22 over land 0", w.spread(0, 0, 1), 1);
     }
 
     private static void unlike() {
@@ -377,6 +400,12 @@ final class LawsTest {
         x.strike(0);
         due("23 none counts as 999: parts", x.unlike(0), 3);
         due("23 none counts as 999: 992 and 973", x.unlike(1), 1);
+        EdgesFit y = inARow();
+        y.beast(3, 0);
+        Check.tell(y, 0, "C:9");
+        Check.tell(y, 1, "C:8");
+        due("23 beast 0, unlike by 1", y.unlike(0), 1);
+        due("23 beast 0, unlike by 1", y.unlike(1), 0);
         due("23 what 2", x.unlike(2), EdgesFit.OUTSIDE);
         due("23 what -1", x.unlike(-1), EdgesFit.OUTSIDE);
     }

@@ -120,6 +120,7 @@ final class PolesTest {
         ridge(0xAAAAAA, 12);
         ridge(0x2AAAAA, 23);
         ridge(0x555554, 1);
+        ridge(0xAAAAA9, 2);
         // Alike at 1 and at 23, and nowhere else: both are eleven from 12.
         ridge(0xD55554, 1);
         ridge(1, 12);

@@ -105,6 +105,12 @@ final class StoriesTest {
         EdgesFit y = two();
         y.claim(0, 1, 3, true, 5);
         dueStory(y, 0, 5, "0000000000");
+        EdgesFit w = new EdgesFit();
+        w.cell(0, 32);
+        w.cell(1, 33);
+        w.claim(0, 1, 5, false, 9);
+        w.claim(0, 1, 9, true, 9);
+        dueStory(w, 0, 2, "00000f0000");
         EdgesFit z = new EdgesFit();
         z.cell(0, 32);
         z.cell(1, 40);
@@ -142,6 +148,13 @@ final class StoriesTest {
         x.claim(1, 0, 4, true, 60);
         due("27 at home", x.judge(0, 0), 23);
         due("27 the other land", x.judge(1, 0), 60);
+        EdgesFit y = new EdgesFit();
+        y.cell(0, 32);
+        y.cell(1, 34);
+        y.claim(0, 1, 0, false, 9);
+        due("27 v is 0 at age 0", y.judge(0, 0), 0);
+        y.claim(0, 1, 0, true, 8);
+        due("27 v is 0 at age 0", y.judge(0, 0x1111111110L), 8 + 1);
         due("27 side by side at age 4", x.judge(0, 0x5555553100L), 3 + 4 + 5);
         due("27 back at age 9", x.judge(0, 0x3555553100L), 3 + 5 + 2);
         due("27 the shorter way around", x.judge(0, 0xf000000000L), 23 + 1);
