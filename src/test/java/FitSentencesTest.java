@@ -20,6 +20,7 @@ final class FitSentencesTest {
         gapsTogether();
         costs();
         counting();
+        oneLeavesAnotherFits();
         bestOfLikeOnes();
         shareNotGreater();
         onOverPairs();
@@ -207,6 +208,35 @@ final class FitSentencesTest {
         due("no other place counts", x.fit(0, 1, 2), 0);
     }
 
+    private static void oneLeavesAnotherFits() {
+        BY.of(Sentences.TERMS, "COUNTS, if no CELL leaves the ROWS");
+        for (int leaving = 0; leaving < 8; leaving += 7) {
+            int u = leaving == 0 ? -1 : 1;
+            EdgesFit x = new EdgesFit();
+            x.cell(0, 64 + 16 * u + 3);
+            x.cell(1, 64 + 3);
+            x.mark(0, 64 + 16 * u + 3, 1);
+            x.mark(0, 64 + 3, 1);
+            due("before: overlap", x.put(0, 1, u, 0, OVERLAP), 1);
+            due("before: chance", x.chance(0, 1, u, 0, 1), 1);
+            due("before: on", x.put(0, 1, u, 1, ON), 1);
+            due("before: beside", x.beside(0, 1, u, 0), 4);
+            due("before: three count", x.fit(0, 1, 2), 3);
+            x.cell(1, 16 * leaving + 9);
+            for (int v = 0; v < 16; v++) {
+                due("one leaves: overlap, v " + v, x.put(0, 1, u, v, OVERLAP), LEAVES);
+                due("one leaves: on, v " + v, x.put(0, 1, u, v, ON), LEAVES);
+                due("one leaves: counts, v " + v, x.put(0, 1, u, v, COUNTS), 0);
+                due("one leaves: chance above, v " + v, x.chance(0, 1, u, v, 0), STATE);
+                due("one leaves: chance below, v " + v, x.chance(0, 1, u, v, 1), STATE);
+                due("one leaves: beside, v " + v, x.beside(0, 1, u, v), STATE);
+            }
+            due("so many as the other cell has", x.fit(0, 1, 2), 3);
+            due("the best fit is that of the other cell", x.fit(0, 1, 0), 4 + u - leaving + 7);
+            due("one leaves: it is not beside, either", x.beside(0, 1, 0, 1), 3);
+        }
+    }
+
     private static void bestOfLikeOnes() {
         BY.of(Sentences.TERMS, "THE BEST FIT: of all PLACES that COUNT the one of least COST; of like ones of least u, then least v.");
         EdgesFit x = rows(bit(4), bit(4));
@@ -278,6 +308,19 @@ final class FitSentencesTest {
         own.mark(0, 36, 1);
         due("marks of a alone", own.put(0, 1, -3, 0, ON), 0);
         due("marks of b alone", own.put(1, 0, 3, 0, ON), 0);
+        EdgesFit third = rows(bit(3), bit(4));
+        third.cell(2, 32 + 5);
+        third.mark(0, 32 + 5, 1);
+        third.mark(0, 84, 1);
+        due("a mark of a third land beside b", third.put(0, 1, -3, 0, ON), 0);
+        third.mark(0, 35, 1);
+        due("one of a, too", third.put(0, 1, -3, 0, ON), 1);
+        EdgesFit home = new EdgesFit();
+        home.cell(0, 35);
+        home.run(1, 5, 4, 2);
+        home.mark(0, 84, 1);
+        due("b put beside its own mark at home", home.put(0, 1, 0, 1, ON), 0);
+        due("a mark of b where b was", home.put(0, 1, -3, 1, ON), 0);
     }
 
     private static void onByTheRing() {

@@ -27,12 +27,14 @@ final class LawSentencesTest {
         notAndOr();
         lettersOfTwoLands();
         distances();
+        distancesOfAllPairs();
         toldLast();
         joinedAtOne();
         likeWays();
         beastBounds();
         spreadCannotBe();
         byWayOfFewest();
+        byWayOfGreaterBits();
         partsAndMost();
         letterBytes();
         lettersBehindZero();
@@ -41,9 +43,11 @@ final class LawSentencesTest {
         faultPlaces();
         faultOfAnyLength();
         lawOrNone();
+        lawBehindOtherLetters();
         longestLaws();
         lawRefused();
         strikes();
+        nothingStruckIsLeft();
         distanceRefused();
         beastRefused();
         crossingRefused();
@@ -253,6 +257,29 @@ final class LawSentencesTest {
         due("a run", x.distance(5, 0), 1);
     }
 
+    private static void distancesOfAllPairs() {
+        BY.of(19, "DISTANCE.");
+        // Each land one cell of row 0, so that each two are unlike far from one another.
+        int[] columns = {0, 1, 3, 7, 12, 14};
+        for (int order = 0; order < 2; order++) {
+            EdgesFit x = new EdgesFit();
+            for (int land = 0; land < 6; land++) {
+                x.cell(land, columns[land]);
+            }
+            for (int round = 0; round < 2; round++) {
+                for (int a = 0; a < 6; a++) {
+                    for (int b = 0; b < 6; b++) {
+                        int one = order == 0 ? a : b;
+                        int other = order == 0 ? b : a;
+                        int apart = Math.abs(columns[a] - columns[b]);
+                        int want = a == b ? UNKNOWN : Math.min(apart, 16 - apart);
+                        due("of " + one + " and " + other, x.distance(one, other), want);
+                    }
+                }
+            }
+        }
+    }
+
     private static void toldLast() {
         BY.of(Sentences.TERMS, "A WAY costs what the LAW says that is told last, whose CONDITION holds (or is none); without one it cannot be");
         EdgesFit x = two(3, 0, 2);
@@ -425,6 +452,31 @@ final class LawSentencesTest {
         due("straight", like.spread(0, 0, 1), 0);
         like.strike(0);
         dueSpread(like, 0, 2, 0b000100);
+    }
+
+    private static void byWayOfGreaterBits() {
+        BY.of(Sentences.TERMS, "the one of fewest, of like ones of least bits.");
+        EdgesFit x = new EdgesFit();
+        x.cell(0, 0);
+        x.cell(1, 1);
+        x.cell(2, 2);
+        x.cell(4, 3);
+        x.cell(3, 65);
+        x.beast(0b10001, 0);
+        Check.tell(x, 0, "J:1");
+        dueSpread(x, 0, 3, 0b00110);
+        // Land 3 is five steps from lands 0 and 2, six from land 4.
+        Check.tell(x, 0, "B:1?d=5");
+        Check.tell(x, 0, "S:2?d=6");
+        dueSpread(x, 0, 3, 0b01000);
+        Check.tell(x, 0, "S:3?d=6");
+        dueSpread(x, 0, 3, 0b00110);
+        Check.tell(x, 0, "S:1?d=6");
+        dueSpread(x, 0, 2, 0b01000);
+        Check.tell(x, 0, "C:4?d=3");
+        dueSpread(x, 0, 2, 0b01000);
+        Check.tell(x, 0, "C:2?d=3");
+        dueSpread(x, 0, 2, 0);
     }
 
     private static void partsAndMost() {
@@ -625,6 +677,24 @@ final class LawSentencesTest {
         due("a space is no letter of a law", x.law(0), STATE);
     }
 
+    private static void lawBehindOtherLetters() {
+        BY.of(17, "STATE: it is none");
+        for (String law : new String[] {"J:1", "C:12?d<1", "S:0?!e=1|k>9"}) {
+            for (int times = 1; times <= 3; times++) {
+                EdgesFit between = new EdgesFit();
+                Check.write(between, law + repeated("x", times) + law);
+                due("two laws with " + times + " of x between", between.law(0), STATE);
+                due("their fault", between.fault(), law.length());
+                for (String other : new String[] {"~", "1", ":", "?", "!", "d", "&", "J", law, law + "?"}) {
+                    EdgesFit x = new EdgesFit();
+                    String text = repeated(other, times) + law;
+                    Check.write(x, text);
+                    due("law of " + text, x.law(0), STATE);
+                }
+            }
+        }
+    }
+
     private static void longestLaws() {
         BY.of(17, "THE PAGE is read as a LAW of a HOLDER: how many there are then; THE PAGE is empty then.");
         String[] longest = {
@@ -693,6 +763,26 @@ final class LawSentencesTest {
         due("holder 0 has none left", x.strike(0), STATE);
         due("holder 1 has eight", x.strike(1), 7);
         due("what its last one asks", x.crossing(1, 0, 0, 1, 0), 70);
+    }
+
+    private static void nothingStruckIsLeft() {
+        BY.of(18, "The last LAW of a HOLDER is struck");
+        String[] struck = {"B:5?d=9", "C:77?d=9&e=9&k=9", "C:77?d=9|e=9|k=9", "C:77?!d=3&!d=3&!d=3|d=9", "J:99?!!!d=3&d=9", "C:77?d=33&e=33"};
+        String[] then = {"C:2", "C:2?d=3", "C:2?d=9|d=3", "C:2?d=3&e=0", "C:2?!d=9"};
+        for (String gone : struck) {
+            for (String law : then) {
+                EdgesFit x = two(3, 0, 2);
+                Check.tell(x, 0, gone);
+                x.strike(0);
+                due("none is left of " + gone, x.crossing(0, 0, 0, 1, 0), NONE);
+                Check.tell(x, 0, law);
+                due(law + " in place of " + gone, x.crossing(0, 0, 0, 1, 0), 2);
+                due("its way", x.crossing(0, 0, 0, 1, 1), 3);
+                x.strike(0);
+                Check.tell(x, 0, "C:3?d=3&e=1");
+                due("one that does not hold in place of " + law, x.crossing(0, 0, 0, 1, 0), NONE);
+            }
+        }
     }
 
     private static void distanceRefused() {

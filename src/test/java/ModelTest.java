@@ -1,11 +1,13 @@
 /** Long runs of calls, the same ones each time, on the class and on the plain model: all answers are alike. */
 final class ModelTest {
-    private static final int RUNS = 40, CALLS = 512;
+    // A step makes ten calls at most, and an object is good for 512.
+    private static final int RUNS = 50, LAST_STEP_FROM = 502;
     private static final Check CHECK = new Check();
 
     private final EdgesFit x = new EdgesFit();
     private final Plain plain = new Plain();
     private long seed;
+    private int calls;
 
     private ModelTest(long seed) {
         this.seed = seed;
@@ -14,8 +16,8 @@ final class ModelTest {
     public static void main(String[] args) {
         for (int run = 1; run <= RUNS; run++) {
             ModelTest test = new ModelTest(run * 7919L);
-            for (int call = 0; call < CALLS; call++) {
-                test.next("run " + run + " call " + call + ": ", run, call);
+            for (int step = 0; test.calls <= LAST_STEP_FROM; step++) {
+                test.next("run " + run + " step " + step + ": ", run, step);
             }
         }
         CHECK.end();
@@ -40,12 +42,13 @@ final class ModelTest {
     }
 
     private void due(String call, long got, long want) {
+        calls++;
         CHECK.due(call, got, want);
     }
 
-    private void next(String at, int run, int call) {
-        // The first calls of a run build what the later ones ask about.
-        int group = call < 60 ? new int[] {0, 0, 0, 1, 3, 3, 5}[below(7)] : below(8);
+    private void next(String at, int run, int step) {
+        // The first steps of a run build what the later ones ask about.
+        int group = step < 60 ? new int[] {0, 0, 0, 1, 3, 3, 5}[below(7)] : below(8);
         switch (group) {
             case 0: lands(at, run); break;
             case 1: marks(at); break;
