@@ -2,23 +2,22 @@ import java.lang.reflect.Constructor;
 import java.lang.reflect.Field;
 import java.lang.reflect.Method;
 import java.lang.reflect.Modifier;
-import java.util.Arrays;
+import java.nio.file.Files;
+import java.nio.file.Path;
 import java.util.TreeSet;
+import java.util.regex.Matcher;
+import java.util.regex.Pattern;
 
 /** The public face: these members, with these types, and no others that can be seen. */
 final class FaceTest {
-    private static final String[] METHODS = {
-        "int cell(int, int)", "int run(int, int, int, int)", "int land(int, int)", "int mark(int, int, int)",
-        "int as(int, int)", "int about(int, int)", "int goesOn(int, int)", "int drop()",
-        "int put(int, int, int, int, int)", "int fit(int, int, int)", "int chance(int, int, int, int, int)",
-        "int beside(int, int, int, int)", "int letters(long)", "int blank()", "int fault()", "int law(int)",
-        "int strike(int)", "int distance(int, int)", "int beast(int, int)", "int crossing(int, int, int, int, int)",
-        "int spread(int, int, int)", "int unlike(int)", "int speed(int)", "int claim(int, int, int, boolean, int)",
-        "int story(int, int)", "int judge(int, long)", "int pole(int, int, int, int)", "int floor(int)",
-        "int mirror(int)", "int ridge()", "int count(int)", "long digest()"};
+    private static final Pattern METHOD = Pattern.compile("(int|long) (\\w+)\\(([^)]*)\\)");
+    private static final Pattern CONSTANT = Pattern.compile("(\\w+) = (-?\\d+)");
 
-    public static void main(String[] args) {
+    public static void main(String[] args) throws Exception {
         Check check = new Check();
+        String document = Files.readString(Path.of("../shared/DOC.md"));
+        String face = document.substring(document.indexOf("## The public face"), document.indexOf("## Terms"));
+        TreeSet<String> want = methods(face);
         TreeSet<String> names = new TreeSet<>();
         TreeSet<String> seen = new TreeSet<>();
         for (Method method : EdgesFit.class.getDeclaredMethods()) {
@@ -28,9 +27,13 @@ final class FaceTest {
                 names.add(method.getName());
             }
         }
-        TreeSet<String> want = new TreeSet<>(Arrays.asList(METHODS));
-        check.due("the methods are " + seen, seen.equals(want) ? 1 : 0, 1);
+        check.due("methods of the document's face", want.size(), 32);
+        check.due("the methods are " + seen + ", due are " + want, seen.equals(want) ? 1 : 0, 1);
+        TreeSet<String> promised = methods(document.substring(document.indexOf("## Promise 1:")));
+        check.due("the promises are of " + promised, promised.equals(want) ? 1 : 0, 1);
+        asWritten(check, face);
         check.due("fields", fields(check), 5);
+        constants(check, face);
         Constructor<?>[] constructors = EdgesFit.class.getDeclaredConstructors();
         check.due("constructors", constructors.length, 1);
         check.due("it is public", constructors[0].getModifiers(), Modifier.PUBLIC);
@@ -43,6 +46,43 @@ final class FaceTest {
         check.due("STATE", EdgesFit.STATE, -103);
         check.due("FULL", EdgesFit.FULL, -104);
         check.end();
+    }
+
+    /** The methods that a text tells, without the names of their parameters. */
+    private static TreeSet<String> methods(String text) {
+        TreeSet<String> all = new TreeSet<>();
+        Matcher matcher = METHOD.matcher(text);
+        while (matcher.find()) {
+            String types = matcher.group(3).replaceAll(" \\w+(?=,|$)", "");
+            all.add(matcher.group(1) + " " + matcher.group(2) + "(" + types + ")");
+        }
+        return all;
+    }
+
+    /** Also the names of parameters are those of the document. */
+    private static void asWritten(Check check, String face) throws Exception {
+        String program = Files.readString(Path.of("src/main/java/EdgesFit.java"));
+        int many = 0;
+        for (String line : face.split("\n")) {
+            if (line.startsWith("    public ")) {
+                many++;
+                String due = line.endsWith(");") ? line.replace(");", ") {\n") : line + "\n";
+                check.due("the program has" + line, program.contains(due) ? 1 : 0, 1);
+            }
+        }
+        check.due("members of the document's face", many, 34);
+    }
+
+    private static void constants(Check check, String face) throws Exception {
+        int many = 0;
+        Matcher matcher = CONSTANT.matcher(face);
+        while (matcher.find()) {
+            many++;
+            Field field = EdgesFit.class.getDeclaredField(matcher.group(1));
+            check.due(field.toString(), field.getInt(null), Integer.parseInt(matcher.group(2)));
+            check.due(field + " is an int", field.getType() == int.class ? 1 : 0, 1);
+        }
+        check.due("constants of the document's face", many, 5);
     }
 
     private static String told(Method method) {
@@ -66,10 +106,14 @@ final class FaceTest {
         return many;
     }
 
-    /** Of the classes inside: they are static, and none of their methods bears the name of a public one. */
+    /** Of the classes inside: they are static; and no other method bears the name of a public one. */
     private static void inside(Check check, TreeSet<String> names) {
         Class<?>[] classes = EdgesFit.class.getDeclaredClasses();
         check.due("some twelve classes at most", classes.length < 13 ? 1 : 0, 1);
+        for (Method method : EdgesFit.class.getDeclaredMethods()) {
+            boolean hidden = Modifier.isPrivate(method.getModifiers());
+            check.due(method + " has a name of its own", hidden && names.contains(method.getName()) ? 1 : 0, 0);
+        }
         for (Class<?> type : classes) {
             check.due(type + " is static", Modifier.isStatic(type.getModifiers()) ? 1 : 0, 1);
             check.due(type + " has few fields", type.getDeclaredFields().length < 25 ? 1 : 0, 1);

@@ -27,6 +27,7 @@ final class FitSentencesTest {
         onByTheRing();
         besideNotBoth();
         besideAsGreat();
+        putAsked();
         putLeaves();
         putRefused();
         fitAtTheEnds();
@@ -83,7 +84,16 @@ final class FitSentencesTest {
     }
 
     private static void overlaps() {
-        BY.of(Sentences.TERMS, "OVERLAP: how many CELLS both have.");
+        BY.of(Sentences.TERMS, "TWO LANDS a (at HOME) and b (PUT somewhere): OVERLAP: how many CELLS both have.");
+        EdgesFit two = new EdgesFit();
+        two.cell(0, 2 * 16 + 4);
+        two.cell(1, 5 * 16 + 9);
+        for (int u = -5; u <= 2; u++) {
+            for (int v = 0; v < 16; v++) {
+                due("b by (" + u + ", " + v + ")", two.put(0, 1, u, v, OVERLAP), u == -3 && v == 11 ? 1 : 0);
+            }
+        }
+        due("the other one put", two.put(1, 0, 3, 5, OVERLAP), 1);
         due("none", put(0x00FF, 0xFF00, OVERLAP), 0);
         due("one, the first column", put(0x00FF, 0x0001, OVERLAP), 1);
         due("one, the last column", put(0xFF00, 0x8000, OVERLAP), 1);
@@ -398,6 +408,29 @@ final class FitSentencesTest {
         due("v 6: a greater one", x.beside(0, 1, -3, 6), 1);
     }
 
+    private static void putAsked() {
+        BY.of(10, "Of b PUT by (u, v): what = 0 OVERLAP, 1 TOUCH, 2 GAP, 3 COST, 4 whether it COUNTS (1, 0), 5 ON");
+        EdgesFit x = rows(bit(0) | bit(1) | bit(2) | bit(3) | bit(8), bit(2) | bit(3) | bit(4) | bit(10) | bit(13));
+        x.mark(1, 32 + 3, 6);
+        x.mark(1, 80 + 4, 7);
+        x.mark(2, 32 + 1, 6);
+        x.mark(2, 80 + 2, 6);
+        // Both have 2 and 3. Side by side: 1 and 2, 2 and 3, 3 and 2, 3 and 4. Free between both: 5 to 7, 9, 14 and 15.
+        int[] want = {2, 4, 6, 8, 1, 7};
+        for (int what = 0; what <= 5; what++) {
+            due("what " + what, x.put(0, 1, -3, 0, what), want[what]);
+        }
+        // Put by six columns b has 8, 9, 10, 0 and 3: of both are 0, 3 and 8; side by side 1 and 0, 2 and 3, 8 and 9; the
+        // free ones, 4 to 7 and 11 to 15, are too many.
+        int[] elsewhere = {3, 3, 0, 6, 1, 0};
+        for (int what = 0; what <= 5; what++) {
+            due("by six columns, what " + what, x.put(0, 1, -3, 6, what), elsewhere[what]);
+        }
+        for (int what = 0; what <= 5; what++) {
+            due("in another row, what " + what, x.put(0, 1, -2, 0, what), 0);
+        }
+    }
+
     private static void putLeaves() {
         BY.of(10, "-1000001, if a CELL leaves the ROWS (what 4: 0)");
         EdgesFit x = new EdgesFit();
@@ -438,7 +471,7 @@ final class FitSentencesTest {
     }
 
     private static void fitAtTheEnds() {
-        BY.of(11, "what = 0 u and 7 (0 to 14), 1 v, 2 how many PLACES COUNT");
+        BY.of(11, "THE BEST FIT: what = 0 u and 7 (0 to 14), 1 v, 2 how many PLACES COUNT");
         for (int from = 0; from < 8; from++) {
             for (int to = 0; to < 8; to++) {
                 EdgesFit x = new EdgesFit();

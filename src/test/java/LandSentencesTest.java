@@ -95,7 +95,7 @@ final class LandSentencesTest {
     }
 
     private static void putByRows() {
-        BY.of(Sentences.TERMS, "each of its CELLS u ROWS further south (u from -7 to 7; none may leave ROWS 0 to 7)");
+        BY.of(Sentences.TERMS, "A LAND PUT by (u, v): each of its CELLS u ROWS further south (u from -7 to 7; none may leave ROWS 0 to 7)");
         for (int row = 0; row < 8; row++) {
             for (int u = -7; u <= 7; u++) {
                 int to = row + u;
@@ -233,7 +233,12 @@ final class LandSentencesTest {
     }
 
     private static void othersBySame() {
-        BY.of(Sentences.TERMS, "a MARK, if n are the same");
+        BY.of(Sentences.TERMS, "GOES ON into another one of its own KIND: a MARK, if n are the same");
+        for (int kind = 0; kind < 6; kind++) {
+            for (int other = 0; other < 6; other++) {
+                due("kind " + kind + " into kind " + other, goesOn(kind, 8, other, 8), kind == other && kind != 4 ? 1 : 0);
+            }
+        }
         for (int n = 0; n < 16; n++) {
             for (int m = 0; m < 16; m++) {
                 due("mark " + n + " into " + m, goesOn(0, n, 0, m), n == m ? 1 : 0);
@@ -412,7 +417,7 @@ final class LandSentencesTest {
     }
 
     private static void landAsked() {
-        BY.of(4, "what = 0 how many CELLS, 1 its least CELL (NONE), 2 how many MARKS are on it.");
+        BY.of(4, "Of a LAND: what = 0 how many CELLS, 1 its least CELL (NONE), 2 how many MARKS are on it.");
         EdgesFit x = new EdgesFit();
         due("no cells", x.land(5, 0), 0);
         due("no least one", x.land(5, 1), NONE);
@@ -487,7 +492,7 @@ final class LandSentencesTest {
     }
 
     private static void castFails() {
-        BY.of(6, "its number; NONE: it is none such (the cast fails). UNKNOWN; OUTSIDE.");
+        BY.of(6, "A MARK taken as a KIND: its number; NONE: it is none such (the cast fails). UNKNOWN; OUTSIDE.");
         EdgesFit x = oneOfEachKind(15);
         for (int mark = 0; mark < 6; mark++) {
             for (int kind = 0; kind < 6; kind++) {
@@ -513,7 +518,7 @@ final class LandSentencesTest {
     }
 
     private static void aboutMarks() {
-        BY.of(7, "what = 0 KIND, 1 CELL, 2 n, 3 WEIGHT. UNKNOWN; OUTSIDE.");
+        BY.of(7, "Of a MARK: what = 0 KIND, 1 CELL, 2 n, 3 WEIGHT. UNKNOWN; OUTSIDE.");
         EdgesFit x = new EdgesFit();
         due("no mark yet", x.about(0, 0), UNKNOWN);
         x.cell(0, 0);
@@ -542,7 +547,7 @@ final class LandSentencesTest {
     }
 
     private static void goesOnUnlikeKinds() {
-        BY.of(8, "1, 0 (0, too, if their KINDS are unlike). UNKNOWN: a, b.");
+        BY.of(8, "Whether a MARK GOES ON into another one: 1, 0 (0, too, if their KINDS are unlike). UNKNOWN: a, b.");
         for (int kind = 0; kind < 6; kind++) {
             for (int other = 0; other < 6; other++) {
                 due(kind + " into " + other, goesOn(kind, 4, other, 4), kind == other && kind != 4 ? 1 : 0);

@@ -50,6 +50,7 @@ final class LawSentencesTest {
         nothingStruckIsLeft();
         distanceRefused();
         beastRefused();
+        crossingAsked();
         crossingRefused();
         spreadAsked();
         unlikeAsked();
@@ -221,7 +222,7 @@ final class LawSentencesTest {
     }
 
     private static void distances() {
-        BY.of(Sentences.TERMS, "the least over a CELL of each of the difference of ROWS and that of COLUMNS (the shorter way around) together; 99, if one of them has none.");
+        BY.of(Sentences.TERMS, "DISTANCE at HOME: the least over a CELL of each of the difference of ROWS and that of COLUMNS (the shorter way around) together; 99, if one of them has none.");
         for (int cell = 0; cell < 128; cell++) {
             for (int other = 0; other < 128; other++) {
                 if (cell != other) {
@@ -564,7 +565,7 @@ final class LawSentencesTest {
                 }
             }
         }
-        BY.of(14, "up to eight, told by their codes in the bytes of w, the lowest byte first, until a byte that is 0: how many THE PAGE has.");
+        BY.of(14, "Letters come behind THE PAGE, up to eight, told by their codes in the bytes of w, the lowest byte first, until a byte that is 0: how many THE PAGE has.");
         for (int many = 0; many <= 8; many++) {
             EdgesFit x = new EdgesFit();
             due(many + " letters", x.letters(Check.packed("C:12?d<1".substring(0, many))), many);
@@ -801,7 +802,7 @@ final class LawSentencesTest {
     }
 
     private static void beastRefused() {
-        BY.of(20, "OUTSIDE: lands (1 to 63), age; FULL.");
+        BY.of(20, "A BEAST: its number. OUTSIDE: lands (1 to 63), age; FULL.");
         EdgesFit x = new EdgesFit();
         for (int round = 0; round < 2; round++) {
             for (int lands : new int[] {0, -1, 64, 65, 127, 128, -64, Integer.MIN_VALUE, Integer.MAX_VALUE}) {
@@ -815,6 +816,40 @@ final class LawSentencesTest {
             for (int i = 0; i < 8; i++) {
                 due("beast " + i, x.beast(i % 2 == 0 ? 1 : 63, i % 2 == 0 ? 0 : 9), round == 0 ? i : FULL);
             }
+        }
+    }
+
+    private static void crossingAsked() {
+        BY.of(21, "CROSSING a and b by a HOLDER for a BEAST: what = 0 COST (NONE: it cannot be), 1 the WAY (0 J, 1 B, 2 S, 3 C; NONE).");
+        EdgesFit x = new EdgesFit();
+        x.cell(0, 0);
+        x.cell(1, 1);
+        x.cell(2, 4);
+        x.beast(3, 0);
+        x.beast(56, 9);
+        int[] none = {NONE, NONE};
+        dueCrossing(x, 0, 0, 0, 1, none);
+        Check.tell(x, 0, "J:4");
+        Check.tell(x, 0, "B:6?d<4");
+        Check.tell(x, 0, "S:8?e=9");
+        Check.tell(x, 1, "C:9?k=3");
+        dueCrossing(x, 0, 0, 0, 1, 4, 0);
+        dueCrossing(x, 0, 0, 1, 0, 4, 0);
+        dueCrossing(x, 0, 0, 1, 2, 6, 1);
+        dueCrossing(x, 0, 0, 0, 2, none);
+        dueCrossing(x, 0, 1, 0, 2, 8, 2);
+        dueCrossing(x, 0, 1, 2, 1, 6, 1);
+        dueCrossing(x, 0, 0, 3, 4, none);
+        dueCrossing(x, 0, 1, 3, 4, 8, 2);
+        dueCrossing(x, 1, 0, 0, 1, none);
+        dueCrossing(x, 1, 1, 0, 1, 9, 3);
+        dueCrossing(x, 1, 1, 4, 0, 9, 3);
+    }
+
+    private static void dueCrossing(EdgesFit x, int holder, int beast, int a, int b, int... want) {
+        for (int what = 0; what < 2; what++) {
+            String call = "crossing(" + holder + ", " + beast + ", " + a + ", " + b + ", " + what + ")";
+            due(call, x.crossing(holder, beast, a, b, what), want[what]);
         }
     }
 
@@ -845,7 +880,7 @@ final class LawSentencesTest {
     }
 
     private static void spreadAsked() {
-        BY.of(22, "what = 0 COST (NONE), 1 BY WAY of (bits; NONE, if they cannot be). UNKNOWN; OUTSIDE.");
+        BY.of(22, "SPREAD by a HOLDER: what = 0 COST (NONE), 1 BY WAY of (bits; NONE, if they cannot be). UNKNOWN; OUTSIDE.");
         EdgesFit x = inARow();
         due("no beast", x.spread(0, 0, 0), UNKNOWN);
         x.beast(0b10001, 0);

@@ -10,6 +10,9 @@ final class Plain {
     private static final String FACTOR = "!*[dek][<=>][0-9]{1,2}";
     private static final Pattern LAW = Pattern.compile("([JBSC]):([0-9]{1,2})(?:\\?(" + FACTOR + "(?:[&|]" + FACTOR + ")*))?");
 
+    private static final int[] ENDS = ends();
+    private static final List<int[]> SETS = sets();
+
     private final int[] owner = new int[128];
     private final List<int[]> marks = new ArrayList<>();
     private final List<List<String>> laws = List.of(new ArrayList<>(), new ArrayList<>());
@@ -359,49 +362,68 @@ final class Plain {
         return cross(holder, beast, a, b)[what];
     }
 
-    /** COST and BY WAY of, by all sets of crossings. */
-    private int[] spreadOf(int holder, int beast) {
+    /** Which two lands each of the fifteen crossings joins. */
+    private static int[] ends() {
         int[] ends = new int[15];
-        int[] costs = new int[15];
         int many = 0;
         for (int a = 0; a < 6; a++) {
-            for (int b = a + 1; b < 6; b++) {
-                ends[many] = 1 << a | 1 << b;
-                costs[many++] = cross(holder, beast, a, b)[0];
+            for (int b = a + 1; b < 6; b++) ends[many++] = 1 << a | 1 << b;
+        }
+        return ends;
+    }
+
+    /** The lands that a set of crossings has; NONE, if it does not join them all to one another. */
+    private static int joined(int set) {
+        int all = 0, seen = 0;
+        for (int i = 0; i < 15; i++) {
+            if ((set >> i & 1) == 1) all |= ENDS[i];
+        }
+        seen = Integer.lowestOneBit(all);
+        for (int round = 0; round < 6; round++) {
+            for (int i = 0; i < 15; i++) {
+                if ((set >> i & 1) == 1 && (ENDS[i] & seen) != 0) seen |= ENDS[i];
             }
         }
-        int lands = beasts.get(beast)[0];
-        int[] best = {NONE, NONE};
+        return seen == all ? all : NONE;
+    }
+
+    /** All sets of crossings that hang together, each with its lands; more than five crossings are never needed. */
+    private static List<int[]> sets() {
+        List<int[]> sets = new ArrayList<>();
         for (int set = 0; set < 1 << 15; set++) {
-            if (Integer.bitCount(set) > 5) continue;
+            if (Integer.bitCount(set) <= 5 && joined(set) != NONE) sets.add(new int[] {set, joined(set)});
+        }
+        return sets;
+    }
+
+    /** COST and BY WAY of, by all sets of crossings. */
+    private int[] spreadOf(int holder, int beast) {
+        int lands = beasts.get(beast)[0];
+        if (Integer.bitCount(lands) == 1) return new int[] {0, 0};
+        int[] costs = new int[15];
+        for (int i = 0; i < 15; i++) {
+            int a = Integer.numberOfTrailingZeros(ENDS[i]), b = 31 - Integer.numberOfLeadingZeros(ENDS[i]);
+            costs[i] = cross(holder, beast, a, b)[0];
+        }
+        int[] best = {NONE, NONE};
+        for (int[] set : SETS) {
+            if ((lands & ~set[1]) != 0) continue;
             int cost = 0;
-            int all = lands;
             boolean can = true;
             for (int i = 0; i < 15; i++) {
-                if ((set >> i & 1) == 1) {
+                if ((set[0] >> i & 1) == 1) {
                     can &= costs[i] != NONE;
                     cost += costs[i];
-                    all |= ends[i];
                 }
             }
-            if (!can || !joined(set, ends, all)) continue;
-            int further = all & ~lands;
+            if (!can) continue;
+            int further = set[1] & ~lands;
             int fewer = Integer.compare(Integer.bitCount(further), Integer.bitCount(best[1]));
             if (best[0] == NONE || cost < best[0] || cost == best[0] && (fewer < 0 || fewer == 0 && further < best[1])) {
                 best = new int[] {cost, further};
             }
         }
         return best;
-    }
-
-    private static boolean joined(int set, int[] ends, int all) {
-        int seen = Integer.lowestOneBit(all);
-        for (int round = 0; round < 6; round++) {
-            for (int i = 0; i < 15; i++) {
-                if ((set >> i & 1) == 1 && (ends[i] & seen) != 0) seen |= ends[i];
-            }
-        }
-        return seen == all;
     }
 
     int spread(int holder, int beast, int what) {

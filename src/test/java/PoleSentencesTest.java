@@ -26,6 +26,7 @@ final class PoleSentencesTest {
         agreeingMost();
         lookedAt();
         thePoleIsLeast();
+        poleAsked();
         putOrAtHome();
         withoutANeedle();
         poleRefused();
@@ -139,6 +140,31 @@ final class PoleSentencesTest {
             int least = cell >= 16 ? cell - 16 : cell == 0 ? 1 : cell == 15 ? 0 : cell - 1;
             due("one step from " + cell, x.pole(2, NONE, 0, 0), least);
         }
+    }
+
+    private static void poleAsked() {
+        BY.of(28, "THE POLE by NEEDLES of a LAND, or of all (land NONE), if LAND put is PUT by v COLUMNS (put NONE: all are at HOME): what = 0 the CELL, 1 AGREE, 2 how many CELLS are POLES");
+        EdgesFit x = new EdgesFit();
+        x.run(0, 2, 4, 2);
+        x.cell(1, 66);
+        x.mark(NEEDLE, 36, 1);
+        x.mark(NEEDLE, 37, 2);
+        x.mark(NEEDLE, 66, 0);
+        // One step from 36: 20, 35, 37, 52; of these 20, 35 and 52 are two steps from 37.
+        duePole("of land 0", x, 0, NONE, 0, 20, 2, 3);
+        duePole("of land 1", x, 1, NONE, 0, 66, 1, 1);
+        duePole("of all", x, NONE, NONE, 0, 20, 2, 3);
+        duePole("of land 0, put", x, 0, 0, 14, 18, 2, 3);
+        // Put by fourteen columns the needles of land 0 agree on 18, 33 and 50; land 1 put by 1 is at 67.
+        duePole("of all, land 0 put", x, NONE, 0, 14, 18, 2, 3);
+        duePole("of all, land 1 put", x, NONE, 1, 1, 20, 2, 3);
+        x.mark(NEEDLE, 66, 2);
+        x.mark(NEEDLE, 66, 2);
+        // Two steps from 66: 34, 49, 51, 64, 68, 81, 83, 98.
+        duePole("of land 1: the two that agree", x, 1, NONE, 0, 34, 2, 8);
+        duePole("of all: more cells alike", x, NONE, NONE, 0, 20, 2, 3 + 8);
+        // Put by one column: 35, 50, 52 and so on; 35 and 52 are those of land 0, too.
+        duePole("of all, land 1 put where four agree", x, NONE, 1, 1, 35, 4, 2);
     }
 
     private static void putOrAtHome() {

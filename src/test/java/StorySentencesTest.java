@@ -288,7 +288,7 @@ final class StorySentencesTest {
     }
 
     private static void storyAsked() {
-        BY.of(26, "what = 0 COST, 10 and i its v at AGE i. UNKNOWN; OUTSIDE.");
+        BY.of(26, "THE STORY of a LAND: what = 0 COST, 10 and i its v at AGE i. UNKNOWN; OUTSIDE.");
         EdgesFit x = two(6);
         x.claim(0, 1, 5, true, 40);
         x.speed(1);
@@ -309,7 +309,7 @@ final class StorySentencesTest {
     }
 
     private static void figures() {
-        BY.of(27, "v of AGE i is the i-th figure of base 16 (AGE 0 the lowest; ten figures)");
+        BY.of(27, "COST of a told STORY of a LAND: v of AGE i is the i-th figure of base 16 (AGE 0 the lowest; ten figures)");
         EdgesFit x = two(2);
         int all = 0;
         for (int age = 0; age < 10; age++) {

@@ -1,6 +1,6 @@
 /** The sentences on what is told that name a boundary case: promises 32 and 33; and an object's 512 calls. */
 final class ToldSentencesTest {
-    private static final int NONE = EdgesFit.NONE, OUTSIDE = EdgesFit.OUTSIDE, STATE = EdgesFit.STATE, FULL = EdgesFit.FULL;
+    private static final int NONE = EdgesFit.NONE, UNKNOWN = EdgesFit.UNKNOWN, OUTSIDE = EdgesFit.OUTSIDE, STATE = EdgesFit.STATE, FULL = EdgesFit.FULL;
     private static final Sentences BY = new Sentences();
 
     private static void due(String call, long got, long want) {
@@ -15,6 +15,8 @@ final class ToldSentencesTest {
         digestOfAll();
         digestWraps();
         digestOfEachNumber();
+        digestInOrder();
+        refusals();
         BY.end(32, 33);
     }
 
@@ -175,6 +177,61 @@ final class ToldSentencesTest {
             h = h.multiply(java.math.BigInteger.valueOf(31)).add(java.math.BigInteger.valueOf(number));
         }
         due("a new object", new EdgesFit().digest(), h.longValue());
+    }
+
+    private static void digestInOrder() {
+        BY.of(33, "of each CELL its LAND (NONE); of each MARK KIND, CELL, n, WEIGHT; of each two LANDS (the lesser first) DISTANCE; of each BEAST its LANDS, AGE, COST of SPREAD by both HOLDERS; SPEED");
+        EdgesFit x = new EdgesFit();
+        int[] at = {0, 1, 19, 40, 78, 127};
+        long h = 313;
+        for (int cell = 0, land = 0; cell < 128; cell++) {
+            boolean next = land < 6 && at[land] == cell;
+            h = with(h, next ? land : NONE);
+            land += next ? 1 : 0;
+        }
+        for (int land = 0; land < 6; land++) {
+            x.cell(land, at[land]);
+        }
+        x.mark(2, 40, 9);
+        x.mark(1, 127, 3);
+        x.mark(4, 0, 15);
+        h = with(h, 2, 40, 9, 4, 1, 127, 3, 3, 4, 0, 15, 0);
+        // Of 0 and 1, 0 and 2, and so on; 1 and 2, and so on.
+        h = with(h, 1, 4, 10, 6, 8, 3, 9, 7, 9, 6, 8, 10, 8, 12, 4);
+        Check.tell(x, 0, "S:10?d<5");
+        Check.tell(x, 1, "C:20?d>5");
+        x.beast(7, 3);
+        x.beast(8, 1);
+        x.beast(48, 8);
+        h = with(h, 7, 3, 20, 60, 8, 1, 0, 0, 48, 8, 10, 40);
+        h = with(h, 2, 0, 12, 6, 3, 1, 1, 3, 0, 0);
+        due("six lands, three marks, three beasts", x.digest(), h);
+    }
+
+    private static void refusals() {
+        BY.of(Sentences.TERMS, "Refusals, of several the first as told by each call: UNKNOWN (a number names nothing), OUTSIDE (it is not as told), STATE (as told), FULL; they change nothing.");
+        EdgesFit x = new EdgesFit();
+        fill(x, new Plain());
+        long all = x.digest();
+        due("no such cell, no such kind, and full", x.mark(6, 128, 0), UNKNOWN);
+        due("no such kind, and full", x.mark(6, 0, 0), OUTSIDE);
+        due("full", x.mark(5, 0, 0), FULL);
+        due("no such holder, no law, and full", x.law(2), UNKNOWN);
+        due("no law, and full", x.law(1), STATE);
+        due("no such lands, and full", x.beast(64, 0), OUTSIDE);
+        due("the same, no such age, and full", x.claim(3, 3, 10, true, 100), UNKNOWN);
+        due("no such weight, and full", x.claim(3, 4, 9, true, 100), OUTSIDE);
+        due("such a claim, and full", x.claim(3, 4, 9, true, 99), FULL);
+        due("a byte too great, and full", x.letters(127), OUTSIDE);
+        due("a letter, and full", x.letters(126), FULL);
+        due("no such cell", x.cell(6, 1), UNKNOWN);
+        due("marks are on it", x.cell(0, 127), STATE);
+        due("they change nothing", x.digest(), all);
+        x.blank();
+        Check.write(x, "J:1");
+        long law = x.digest();
+        due("a law, and full", x.law(0), FULL);
+        due("the page is as it was", x.digest(), law);
     }
 
     /** What a number of the digest adds, told by how many numbers come behind it. */
